@@ -229,6 +229,10 @@ public final class PartsTest {
         Due.due("refused", x.begun(0, 0, 0, 1, 0, 0), HullCharts.STATE);
         Due.due("fault", x.fault(), 0);
         Due.due("null", x.copy(0, 0, 0, 0, 0), -11);
+        Due.due("fault", x.fault(), 1);
+        Due.due("refused", x.copy(0, 0, 4, 0, 0), HullCharts.UNKNOWN);
+        Due.due("fault", x.fault(), 0);
+        Due.due("null", x.copy(0, 0, 0, 0, 0), -11);
         Due.due("refused", x.as(0, 0), HullCharts.UNKNOWN);
         Due.due("fault", x.fault(), 0);
         Due.due("null", x.put(0, 0, 0), -11);

@@ -118,6 +118,8 @@ public final class SeaTest {
         fault("f62" + "0".repeat(12) + ";p0;p0;p0;p0;p0/00", 27);
         fault("f62" + "0".repeat(12) + ";p0;p0;p0;p0/30", 28);
         fault("f62" + "0".repeat(12) + ";p0;p0;p0;p0/22", 29);
+        HullCharts x = Due.with("f220000;p0/11");
+        for (int n = 0; n < 13; n++) Due.due("what an earlier text had behind " + n, x.sea(0, 0, 0, n), -100 - n);
     }
 
     private static void fault(String text, int place) {

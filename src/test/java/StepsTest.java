@@ -59,6 +59,9 @@ public final class StepsTest {
             Due.due("place of " + n, x.voyage(1, 2, 0, n, 4), place[n]);
         }
         Due.due("from 1 on", x.voyage(1, 2, 1, 1, 4), 3);
+        Due.due("cell 0 unseen", Due.takeSea(x, "f32000000;p0/11"), 1);
+        Due.due("and not met", x.voyage(1, 2, 0, 1, 0), 1);
+        Due.due("two again", Due.takeSea(x, TWO), 2);
         int[] forty = new int[40];
         for (int p = 0; p < 40; p++) forty[p] = p % 2 == 0 ? 2 : 0;
         Due.lay(x, 2, 0, forty);

@@ -49,6 +49,11 @@ public final class WhereTest {
 
     private static void waysThereAreNone() {
         HullCharts x = Due.with("f220000;p0;d0/00");
+        Due.due("scrape", x.scrape(1), 1);
+        Due.due("one who is gone is in the way", x.way(1, -1), HullCharts.NONE);
+        Due.due("one who is gone is in the way", x.way(3, -1), HullCharts.NONE);
+        way(x, 2, 2);
+        Due.due("grow", x.grow(1), 2);
         Due.due("scrape", x.scrape(0), 1);
         Due.due("none", x.way(0, -1), HullCharts.NONE);
         Due.due("none", x.way(0, 0), HullCharts.NONE);
@@ -91,6 +96,15 @@ public final class WhereTest {
         mostOf(x, 2, 2, 0, 1);
         Due.due("scrape", x.scrape(2), 0);
         mostOf(x, 5, 0, 0, 1, 2, 0, 2);
+        Due.due("nothing in the way", Due.takeSea(x, "f66" + "0".repeat(36) + ";p0/22"), 1);
+        mostOf(x, 1, 1, 0);
+        mostOf(x, 2, 2, 0, 0);
+        mostOf(x, 5, 5, 0, 0, 1, 1, 1);
+        Due.due("in a corner", Due.takeSea(x, "f62" + "0".repeat(12) + ";p0/51"), 1);
+        mostOf(x, 5, 5, 0, 3, 2, 3, 0);
+        Due.due("up", x.step(0), 1);
+        mostOf(x, 1, 1, 3);
+        mostOf(x, 5, 5, 3, 2, 3, 0, 3);
     }
 
     private static void mostAtItsEdges() {
@@ -146,6 +160,8 @@ public final class WhereTest {
         begunIs(x, 4, 3, 1, 0, HullCharts.NONE, HullCharts.NONE);
         begunIs(x, 10, 1, 1, 0, HullCharts.NONE, HullCharts.NONE);
         begunIs(x, 0, 6, 1, 0, HullCharts.NONE, HullCharts.NONE);
+        begunIs(x, 1, 1, 1, 0, HullCharts.NONE, HullCharts.NONE);
+        begunIs(x, 5, 1, 1, 0, HullCharts.NONE, HullCharts.NONE);
         Due.due("the place counts for nothing", x.step(1), 1);
         begunIs(x, 4, 3, 2, 1, 0, 0);
         Due.due("six rows", Due.takeSea(x, "f66" + "0".repeat(36) + ";p0;p0;p0;p0/00"), 4);
