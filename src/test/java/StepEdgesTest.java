@@ -300,6 +300,8 @@ public final class StepEdgesTest {
         // behind growing, what LOOKER 1 is over is SEEN; GONE, it is not
         Ship ship = Ship.over("f23" + "000000" + ";p0;p0/00").row(1, 2, 2, 0).due("scrape 1", 1).due("step 2", 1).due("step 2", 1);
         ship.due("voyage 1 2 1 1 0", 0).due("grow 1", 2).due("voyage 1 2 1 1 0", 1).due("voyage 1 2 1 0 0", 0);
+        // cell 0 is not SEEN yet, and is not met
+        voyageIs(Ship.over("f22" + "0000" + ";p0/11").row(1, 2, 0), 0, 1, 1, 0, 0, 1);
     }
 
     private static void voyageTellsBehindEachStep() {
