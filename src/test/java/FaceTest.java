@@ -21,7 +21,7 @@ public final class FaceTest {
         int as 2, int trace 0, int fault 0, int many 1""";
     private static final String[] RULED_OUT = {"\\bthrow\\b", "\\bthrows\\b", "\\btry\\b", "\\bcatch\\b", "\\bfinally\\b",
         "\\bsynchronized\\b", "\\bassert\\b", "::", "\\bSystem\\b(?!\\.arraycopy)", "Exact\\b", "\\bpackage\\b", "\\bprotected\\b",
-        "\\bhashCode\\b", "[^\\x00-\\x7f]", "import (?!java\\.util\\.(Arrays|ArrayList|List|Iterator);)"};
+        "\\bhashCode\\b", "\\btoString\\b", "->", "\\bstatic\\s*\\{", "[^\\x00-\\x7f]", "import (?!java\\.util\\.(Arrays|ArrayList|List|Iterator);)"};
 
     public static void main(String[] args) throws IOException {
         constants();
