@@ -23,11 +23,19 @@ public final class FaceTest {
         "\\bsynchronized\\b", "\\bassert\\b", "::", "\\bSystem\\b(?!\\.arraycopy)", "Exact\\b", "\\bpackage\\b", "\\bprotected\\b",
         "\\bhashCode\\b", "\\btoString\\b", "->", "\\bstatic\\s*\\{", "[^\\x00-\\x7f]", "import (?!java\\.util\\.(Arrays|ArrayList|List|Iterator);)"};
 
+    private static final String[] HEADS = {
+        "// ---- 1 the sea: sea ofLooker height heap dim scrape grow seen",
+        "// ---- 2 steps: step voyage",
+        "// ---- 3 where to go, where it was: way most flat begun run",
+        "// ---- 4 what was told: reading back shorts kinds odds",
+        "// ---- 5 sheets, parts: sheet lose put cell copy tell greet as trace fault many"};
+
     public static void main(String[] args) throws IOException {
         constants();
         face();
         classesInside();
         source();
+        heads();
         Due.end();
     }
 
@@ -85,5 +93,26 @@ public final class FaceTest {
         String text = Files.readString(Path.of("src/main/java/HullCharts.java"));
         String code = text.replaceAll("(?s)/\\*.*?\\*/", "").replaceAll("//[^\n]*", "");
         for (String sign : RULED_OUT) Due.isTrue("the source is without " + sign, !Pattern.compile(sign).matcher(code).find());
+    }
+
+    /** The interface's heads and calls, in the document's order. */
+    private static void heads() throws IOException {
+        String text = Files.readString(Path.of("src/main/java/HullCharts.java"));
+        int place = 0;
+        for (String head : HEADS) {
+            String[] parts = head.split(": ");
+            place = behind(text, parts[0] + "\n", place);
+            for (String call : parts[1].split(" ")) place = behind(text, "public " + (isLong(call) ? "long " : "int ") + call + "(", place);
+        }
+    }
+
+    private static boolean isLong(String call) {
+        return FACE.contains("long " + call + " ");
+    }
+
+    private static int behind(String text, String part, int place) {
+        int found = text.indexOf(part, place);
+        Due.isTrue("the source has " + part.strip() + " in its place", found >= 0);
+        return Math.max(found, place);
     }
 }
